@@ -340,9 +340,8 @@ public final class StreetSides {
         }
 
         /** Kind 1 has side 0 alone, kind 2 has side 1 alone. */
-        boolean hasWayOf(int side) {
-            int itsKind = kind[streetOf(side)];
-            return itsKind == BOTH_WAYS || itsKind == side % 2 + 1;
+        boolean hasWay(int street, int side) {
+            return kind[street] == BOTH_WAYS || kind[street] == side + 1;
         }
 
         /** When a side of the street is begun by one who is before it at a time; NONE for never. */
@@ -394,7 +393,7 @@ public final class StreetSides {
 
         private boolean canBeDriven(int side) {
             int street = streetOf(side);
-            return streets.hasWayOf(side)
+            return streets.hasWay(street, side % 2)
                     && vehicle[HEIGHT] <= streets.greatestOf(street, HEIGHT)
                     && vehicle[WEIGHT] <= streets.greatestOf(street, WEIGHT);
         }
@@ -455,7 +454,8 @@ public final class StreetSides {
 
     /** Looks for ways; its rows are made once and used again by every call. */
     private static final class Search {
-        private static final int NEVER = Integer.MAX_VALUE;
+        // Later than any side ends: the last one is begun before the days are over.
+        private static final int NEVER = 2 * ALL_SECONDS;
 
         private final int[] earliest = new int[MOST_SIDES];
         private final boolean[] settled = new boolean[MOST_SIDES];

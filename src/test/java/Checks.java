@@ -3,6 +3,17 @@ final class Checks {
     private int wrong = 0;
     private int asked = 0;
 
+    /** Nodes 0, 1, 2 in a row, with street 0 from 0 to 1 and street 1 from 1 to 2. */
+    static StreetSides row() {
+        StreetSides x = new StreetSides();
+        x.node(0, 0);
+        x.node(10, 0);
+        x.node(20, 0);
+        x.street(0, 1, 30, 0);
+        x.street(1, 2, 40, 0);
+        return x;
+    }
+
     void due(String call, long got, long want) {
         asked++;
         if (got != want) {

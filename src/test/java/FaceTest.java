@@ -62,7 +62,8 @@ public final class FaceTest {
 
     private static String described(Method method) {
         StringBuilder text = new StringBuilder();
-        text.append(method.getReturnType().getName()).append(' ').append(method.getName()).append('(');
+        text.append(method.getReturnType().getName()).append(' ');
+        text.append(method.getName()).append('(');
         String comma = "";
         for (Class<?> type : method.getParameterTypes()) {
             text.append(comma).append(type.getName());
